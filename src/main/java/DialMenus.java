@@ -37,10 +37,10 @@ public final class DialMenus {
     private final Row input = new Row(MAX_INPUT);
     private final Keypad keypad = new Keypad();
     private final Roster roster = new Roster();
-    private final ListReader listReader = new ListReader(text);
-    private final Choices choices = new Choices(roster);
-    private final Readings readings = new Readings(roster, input);
-    private final Planner planner = new Planner(roster);
+    private final ListReader listReader = new ListReader();
+    private final Choices choices = new Choices();
+    private final Readings readings = new Readings();
+    private final Planner planner = new Planner();
     private Menu present = new Menu();
     private Menu spare = new Menu();
     private boolean hasMenu;
@@ -70,11 +70,12 @@ public final class DialMenus {
     }
 
     public int fault() {
-        return listReader.scan();
+        return listReader.scan(text);
     }
 
     public int names() {
-        if (!listReader.readsWholeList() || isAnyItemKnown()) {
+        boolean fits = listReader.scan(text) == text.size();
+        if (!fits || !listReader.endsWithItem() || isAnyItemKnown()) {
             return STATE;
         }
         int added = listReader.items();
@@ -82,7 +83,7 @@ public final class DialMenus {
             return FULL;
         }
         for (int item = 0; item < added; item++) {
-            Entry entry = listReader.entryOf(item);
+            Entry entry = listReader.entryOf(text, item);
             entry.encode(keypad);
             roster.insert(entry);
         }
@@ -144,13 +145,13 @@ public final class DialMenus {
             case 1:
                 return roster.frequencyOf(name);
             case 2:
-                return choices.twins(name);
+                return choices.twins(roster, name);
             case 3:
-                return choices.distinguishingLength(name);
+                return choices.distinguishingLength(roster, name);
             case 4:
-                return choices.presses(name);
+                return choices.presses(roster, name);
             case 5:
-                return choices.placeIn(roster.lengthOf(name), name);
+                return choices.placeIn(roster, roster.lengthOf(name), name);
             case 6:
                 return hasMenu ? present.lengthOf(name) : NONE;
             case 7:
@@ -179,13 +180,13 @@ public final class DialMenus {
             case 1:
                 return roster.sumOfFrequencies();
             case 2:
-                return choices.namesWithTwins();
+                return choices.namesWithTwins(roster);
             case 3:
-                return choices.differentCodes();
+                return choices.differentCodes(roster);
             case 4:
-                return choices.greatestDistinguishingLength();
+                return choices.greatestDistinguishingLength(roster);
             case 5:
-                return choices.sumOfPresses();
+                return choices.sumOfPresses(roster);
             case 6:
                 return roster.sumOfLengths();
             default:
@@ -223,16 +224,16 @@ public final class DialMenus {
     }
 
     public int choice(int place) {
-        return choices.listFor(input).get(place);
+        return choices.listFor(roster, input).get(place);
     }
 
     public int spelling(int what) {
-        readings.study();
+        readings.study(roster, input);
         return readings.number(what);
     }
 
     public int piece(int place) {
-        readings.study();
+        readings.study(roster, input);
         return readings.best().get(place);
     }
 
@@ -300,7 +301,7 @@ public final class DialMenus {
 
     // The answer is the spare menu, which the next call of this method writes anew.
     private Menu optimal(int width) {
-        planner.planInto(spare, width);
+        planner.planInto(spare, roster, width);
         return spare;
     }
 
@@ -343,10 +344,17 @@ public final class DialMenus {
             h = mix(h, about(what));
         }
         h = mixRow(h, input);
-        h = mixRow(h, choices.listFor(input));
-        h = mixReadings(h);
+        h = mixRow(h, choices.listFor(roster, input));
+        readings.study(roster, input);
+        for (int what = 0; what <= 3; what++) {
+            h = mix(h, readings.number(what));
+        }
+        h = mixRow(h, readings.best());
         if (hasMenu) {
-            h = mixMenu(h);
+            for (int what = 0; what <= 6; what++) {
+                h = mix(h, menu(what));
+            }
+            h = mixPaths(h);
         }
         h = mixRow(h, text);
         for (int what = 0; what <= 5; what++) {
@@ -375,20 +383,8 @@ public final class DialMenus {
         return h;
     }
 
-    private long mixReadings(long start) {
+    private long mixPaths(long start) {
         long h = start;
-        readings.study();
-        for (int what = 0; what <= 3; what++) {
-            h = mix(h, readings.number(what));
-        }
-        return mixRow(h, readings.best());
-    }
-
-    private long mixMenu(long start) {
-        long h = start;
-        for (int what = 0; what <= 6; what++) {
-            h = mix(h, menu(what));
-        }
         for (int name = 0; name < roster.size(); name++) {
             int length = present.lengthOf(name);
             for (int step = 0; step < length; step++) {
@@ -531,8 +527,7 @@ public final class DialMenus {
         }
 
         boolean comesBefore(Entry other) {
-            int common = Math.min(letters.length, other.letters.length);
-            for (int place = 0; place < common; place++) {
+            for (int place = 0; place < letters.length && place < other.letters.length; place++) {
                 if (letters[place] != other.letters[place]) {
                     return letters[place] < other.letters[place];
                 }
@@ -553,13 +548,11 @@ public final class DialMenus {
         }
 
         int sharedDigits(Entry other) {
-            int common = Math.min(code.length, other.code.length);
-            for (int place = 0; place < common; place++) {
-                if (code[place] != other.code[place]) {
-                    return place;
-                }
+            int shared = 0;
+            while (shared < code.length && shared < other.code.length && code[shared] == other.code[shared]) {
+                shared++;
             }
-            return common;
+            return shared;
         }
 
         boolean beginsWith(Row digits) {
@@ -591,23 +584,33 @@ public final class DialMenus {
         }
 
         boolean has(int name) {
-            return name >= 0 && name < size;
+            return get(name) != null;
         }
 
         private Entry get(int name) {
-            return has(name) ? entries[name] : null;
+            return name >= 0 && name < size ? entries[name] : null;
         }
 
         void insert(Entry entry) {
             if (size >= MAX_NAMES) {
                 return;
             }
-            int at = size;
-            for (; at > 0 && entry.comesBefore(entries[at - 1]); at--) {
+            int place = placeOf(entry);
+            for (int at = size; at > place; at--) {
                 entries[at] = entries[at - 1];
             }
-            entries[at] = entry;
+            entries[place] = entry;
             size++;
+        }
+
+        private int placeOf(Entry entry) {
+            int place = 0;
+            for (Entry other : entries) {
+                if (other != null && other.comesBefore(entry)) {
+                    place++;
+                }
+            }
+            return place;
         }
 
         void remove(int name) {
@@ -622,8 +625,8 @@ public final class DialMenus {
         }
 
         boolean contains(Row text, int start, int length) {
-            for (int name = 0; name < size; name++) {
-                if (entries[name].isWritten(text, start, length)) {
+            for (Entry entry : entries) {
+                if (entry != null && entry.isWritten(text, start, length)) {
                     return true;
                 }
             }
@@ -631,8 +634,10 @@ public final class DialMenus {
         }
 
         void encode(Keypad keypad) {
-            for (int name = 0; name < size; name++) {
-                entries[name].encode(keypad);
+            for (Entry entry : entries) {
+                if (entry != null) {
+                    entry.encode(keypad);
+                }
             }
         }
 
@@ -673,6 +678,16 @@ public final class DialMenus {
             return first == null || second == null ? UNKNOWN : first.sharedDigits(second);
         }
 
+        /** Tells whether one name stands before another in every choice that has both. */
+        boolean isAhead(int one, int other) {
+            Entry first = get(one);
+            Entry second = get(other);
+            if (first == null || second == null) {
+                return false;
+            }
+            return first.frequency > second.frequency || first.frequency == second.frequency && one < other;
+        }
+
         boolean beginsWith(int name, Row digits) {
             Entry entry = get(name);
             return entry != null && entry.beginsWith(digits);
@@ -685,16 +700,20 @@ public final class DialMenus {
 
         int sumOfFrequencies() {
             int sum = 0;
-            for (int name = 0; name < size; name++) {
-                sum += entries[name].frequency;
+            for (Entry entry : entries) {
+                if (entry != null) {
+                    sum += entry.frequency;
+                }
             }
             return sum;
         }
 
         int sumOfLengths() {
             int sum = 0;
-            for (int name = 0; name < size; name++) {
-                sum += entries[name].frequency * entries[name].letters.length;
+            for (Entry entry : entries) {
+                if (entry != null) {
+                    sum += entry.frequency * entry.letters.length;
+                }
             }
             return sum;
         }
@@ -702,17 +721,12 @@ public final class DialMenus {
 
     /** Reads a text as a list of names, character by character. */
     private static final class ListReader {
-        private final Row text;
         private final int[] starts = new int[MAX_TEXT];
         private final int[] lengths = new int[MAX_TEXT];
         private final int[] frequencies = new int[MAX_TEXT];
         private int items;
         private int start;
         private boolean inFrequency;
-
-        ListReader(Row text) {
-            this.text = text;
-        }
 
         int items() {
             return items;
@@ -726,7 +740,7 @@ public final class DialMenus {
             return item >= 0 && item < items ? lengths[item] : 0;
         }
 
-        Entry entryOf(int item) {
+        Entry entryOf(Row text, int item) {
             return new Entry(text, startOf(item), lengthOf(item), frequencyOf(item));
         }
 
@@ -735,18 +749,19 @@ public final class DialMenus {
             return item >= 0 && item < items ? frequencies[item] : 0;
         }
 
-        boolean readsWholeList() {
-            return scan() == text.size() && inFrequency && frequencyOf(items - 1) > 0;
+        /** Tells whether the text that was scanned last may end where it does. */
+        boolean endsWithItem() {
+            return inFrequency && frequencyOf(items - 1) > 0;
         }
 
         /** Answers the place of the first character that does not fit, or the length of the text. */
-        int scan() {
+        int scan(Row text) {
             items = 0;
             start = 0;
             inFrequency = false;
             for (int at = 0; at < text.size(); at++) {
                 int code = text.get(at);
-                boolean fits = inFrequency ? fitsFrequency(code, at) : fitsName(code, at);
+                boolean fits = inFrequency ? fitsFrequency(code, at) : fitsName(text, at);
                 if (!fits) {
                     return at;
                 }
@@ -754,16 +769,17 @@ public final class DialMenus {
             return text.size();
         }
 
-        private boolean fitsName(int code, int at) {
+        private boolean fitsName(Row text, int at) {
+            int code = text.get(at);
             if (code == ':') {
-                return endsName(at);
+                return endsName(text, at);
             }
             return code >= 'a' && code <= 'z' && at - start < MAX_LETTERS;
         }
 
-        private boolean endsName(int at) {
+        private boolean endsName(Row text, int at) {
             int length = at - start;
-            if (length == 0 || isListed(length) || items >= MAX_TEXT) {
+            if (length == 0 || isListed(text, length) || items >= MAX_TEXT) {
                 return false;
             }
             starts[items] = start;
@@ -774,16 +790,16 @@ public final class DialMenus {
             return true;
         }
 
-        private boolean isListed(int length) {
+        private boolean isListed(Row text, int length) {
             for (int item = 0; item < items; item++) {
-                if (lengths[item] == length && isSameText(starts[item], length)) {
+                if (lengths[item] == length && isSameText(text, starts[item], length)) {
                     return true;
                 }
             }
             return false;
         }
 
-        private boolean isSameText(int earlier, int length) {
+        private boolean isSameText(Row text, int earlier, int length) {
             for (int place = 0; place < length; place++) {
                 if (text.get(earlier + place) != text.get(start + place)) {
                     return false;
@@ -814,57 +830,47 @@ public final class DialMenus {
 
     /** What the codes of the names have in common, and who stands where in the choices. */
     private static final class Choices {
-        private final Roster roster;
         private final Row listed = new Row(MAX_NAMES);
 
-        Choices(Roster roster) {
-            this.roster = roster;
-        }
-
         /** Answers the choice for these digits, in a row that the next call writes anew. */
-        Row listFor(Row digits) {
+        Row listFor(Roster roster, Row digits) {
             listed.clear();
             for (int name = 0; name < roster.size(); name++) {
                 if (roster.beginsWith(name, digits)) {
-                    listed.insert(placeInList(name), name);
+                    listed.insert(placeInList(roster, name), name);
                 }
             }
             return listed;
         }
 
-        private int placeInList(int name) {
+        private int placeInList(Roster roster, int name) {
             int place = listed.size();
-            for (; place > 0 && isAhead(name, listed.get(place - 1)); place--) {
-                continue;
+            while (place > 0 && roster.isAhead(name, listed.get(place - 1))) {
+                place--;
             }
             return place;
         }
 
-        private boolean isAhead(int one, int other) {
-            int difference = roster.frequencyOf(one) - roster.frequencyOf(other);
-            return difference > 0 || difference == 0 && one < other;
-        }
-
         /** Answers the place, from 0, of a name in the choice for the first digits of its own code. */
-        int placeIn(int digits, int name) {
+        int placeIn(Roster roster, int digits, int name) {
             int place = 0;
             for (int other = 0; other < roster.size(); other++) {
-                if (isAhead(other, name) && roster.sharedDigits(other, name) >= digits) {
+                if (roster.isAhead(other, name) && roster.sharedDigits(other, name) >= digits) {
                     place++;
                 }
             }
             return place;
         }
 
-        int presses(int name) {
-            int least = placeIn(0, name) + 1;
+        int presses(Roster roster, int name) {
+            int least = placeIn(roster, 0, name) + 1;
             for (int digits = 1; digits <= roster.lengthOf(name); digits++) {
-                least = Math.min(least, digits + placeIn(digits, name) + 1);
+                least = Math.min(least, digits + placeIn(roster, digits, name) + 1);
             }
             return least;
         }
 
-        int distinguishingLength(int name) {
+        int distinguishingLength(Roster roster, int name) {
             // One digit more than the name shares with any other; none at all if there is no other.
             int length = 0;
             for (int other = 0; other < roster.size(); other++) {
@@ -875,57 +881,57 @@ public final class DialMenus {
             return length <= roster.lengthOf(name) ? length : NONE;
         }
 
-        private boolean areTwins(int one, int other) {
+        private boolean areTwins(Roster roster, int one, int other) {
             int length = roster.lengthOf(one);
             return one != other && roster.lengthOf(other) == length && roster.sharedDigits(one, other) == length;
         }
 
-        int twins(int name) {
-            return twinsBelow(roster.size(), name);
+        int twins(Roster roster, int name) {
+            return twinsBelow(roster, roster.size(), name);
         }
 
-        private int twinsBelow(int end, int name) {
+        private int twinsBelow(Roster roster, int end, int name) {
             int twins = 0;
             for (int other = 0; other < end; other++) {
-                if (areTwins(name, other)) {
+                if (areTwins(roster, name, other)) {
                     twins++;
                 }
             }
             return twins;
         }
 
-        int namesWithTwins() {
+        int namesWithTwins(Roster roster) {
             int number = 0;
             for (int name = 0; name < roster.size(); name++) {
-                if (twins(name) > 0) {
+                if (twins(roster, name) > 0) {
                     number++;
                 }
             }
             return number;
         }
 
-        int differentCodes() {
+        int differentCodes(Roster roster) {
             int codes = 0;
             for (int name = 0; name < roster.size(); name++) {
-                if (twinsBelow(name, name) == 0) {
+                if (twinsBelow(roster, name, name) == 0) {
                     codes++;
                 }
             }
             return codes;
         }
 
-        int greatestDistinguishingLength() {
+        int greatestDistinguishingLength(Roster roster) {
             int greatest = NONE;
             for (int name = 0; name < roster.size(); name++) {
-                greatest = Math.max(greatest, distinguishingLength(name));
+                greatest = Math.max(greatest, distinguishingLength(roster, name));
             }
             return greatest;
         }
 
-        int sumOfPresses() {
+        int sumOfPresses(Roster roster) {
             int sum = 0;
             for (int name = 0; name < roster.size(); name++) {
-                sum += roster.frequencyOf(name) * presses(name);
+                sum += roster.frequencyOf(name) * presses(roster, name);
             }
             return sum;
         }
@@ -933,20 +939,13 @@ public final class DialMenus {
 
     /** The readings of the input, from its end backwards: each row tells of the input from a place on. */
     private static final class Readings {
-        private final Roster roster;
-        private final Row input;
         private final int[] all = new int[MAX_INPUT + 1];
         private final int[] fewestDigits = new int[MAX_INPUT + 1];
         private final int[] withFewestDigits = new int[MAX_INPUT + 1];
         private final int[] fewestPieces = new int[MAX_INPUT + 1];
         private final Row best = new Row(MAX_INPUT);
 
-        Readings(Roster roster, Row input) {
-            this.roster = roster;
-            this.input = input;
-        }
-
-        void study() {
+        void study(Roster roster, Row input) {
             int end = Math.min(input.size(), MAX_INPUT);
             all[end] = 1;
             fewestDigits[end] = 0;
@@ -960,7 +959,7 @@ public final class DialMenus {
                     }
                 }
             }
-            layBest(end);
+            layBest(roster, input);
         }
 
         private void studyDigit(int at) {
@@ -982,11 +981,11 @@ public final class DialMenus {
             }
         }
 
-        private void layBest(int end) {
+        private void layBest(Roster roster, Row input) {
             best.clear();
             int at = 0;
-            for (int pieces = 0; pieces < MAX_INPUT && at < end; pieces++) {
-                int name = bestNameAt(at);
+            for (int pieces = 0; pieces < MAX_INPUT && at < input.size(); pieces++) {
+                int name = bestNameAt(roster, input, at);
                 if (name == NONE) {
                     best.add(-2 - input.get(at));
                     at++;
@@ -997,7 +996,7 @@ public final class DialMenus {
             }
         }
 
-        private int bestNameAt(int at) {
+        private int bestNameAt(Roster roster, Row input, int at) {
             for (int name = 0; name < roster.size(); name++) {
                 if (roster.isTypedAt(name, input, at) && keepsBest(at, at + roster.lengthOf(name))) {
                     return name;
@@ -1154,7 +1153,6 @@ public final class DialMenus {
 
     /** Plans the optimal menus for all runs of consecutive names, the short runs first. */
     private static final class Planner {
-        private final Roster roster;
         private final int[] sumBefore = new int[MAX_NAMES + 1];
         // By the number of parts, then by the run: the least cost within these parts, and the size of the first one.
         // For one part this is the optimal menu of the run itself.
@@ -1162,11 +1160,7 @@ public final class DialMenus {
         private final int[][] firstSizes = new int[MAX_WIDTH + 1][MAX_NAMES * MAX_NAMES];
         private final int[] bestParts = new int[MAX_NAMES * MAX_NAMES];
 
-        Planner(Roster roster) {
-            this.roster = roster;
-        }
-
-        void planInto(Menu menu, int width) {
+        void planInto(Menu menu, Roster roster, int width) {
             int names = roster.size();
             int limit = Math.min(width, MAX_WIDTH);
             for (int name = 0; name < names; name++) {
