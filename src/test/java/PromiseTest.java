@@ -675,6 +675,23 @@ public final class PromiseTest {
         DialMenus y = Check.with(TWELVE);
         due("21 width 4 of twelve", y.build(4), 23);
         paths(y, "1", "21", "22", "23", "31", "32", "33", "34", "41", "42", "43", "44");
+        Check.addNames(y, "m:1;n:1");
+        due("21 width 2 of fourteen", y.build(2), 2 * 3 + 12 * 4);
+        due("21 width 3 of fourteen", y.build(3), 6 * 2 + 8 * 3);
+        due("21 width 4 of fourteen", y.build(4), 14 * 2);
+        paths(y, "11", "12", "21", "22", "23", "24", "31");
+        longPath();
+    }
+
+    private static void longPath() {
+        // Each name is as heavy as all that come two or more places after it, so the first part always has one name.
+        DialMenus x = Check.with("a:89;b:55;c:34;d:21;e:13;f:8;g:5;h:3;i:2;j:1");
+        Check.addNames(x, "k:1;l:1");
+        due("21 long", x.build(2), 89 + 55 * 2 + 34 * 3 + 21 * 4 + 13 * 5 + 8 * 6 + 5 * 7 + 3 * 8 + 2 * 9 + 10 + 11 + 11);
+        paths(x, "1", "21", "221", "2221", "22221", "222221", "2222221", "22222221", "222222221", "2222222221",
+            "22222222221", "22222222222");
+        due("21 longest path", x.menu(3), 11);
+        due("21 menus", x.menu(4), 11);
     }
 
     private static void promise22Tend() {
@@ -725,10 +742,29 @@ public final class PromiseTest {
         z.use(2, 1);
         due("22 equally cheap stays", z.tend(0), NONE);
         paths(z, "11", "12", "2");
+        someStay();
         equalAtTheEdge();
         DialMenus one = Check.with("a:1");
         one.build(3);
         due("22 one name", one.tend(0), NONE);
+    }
+
+    private static void someStay() {
+        DialMenus x = Check.with("a:1;b:1;c:1;d:1;e:1");
+        x.build(4);
+        paths(x, "1", "2", "3", "41", "42");
+        // Old: 13 + 10 = 23; best: 13 + 2 = 15, with b and c together; 800 against 15 * slack.
+        x.use(3, 9);
+        due("22 stays at 54", x.tend(54), NONE);
+        due("22 the path of a is the same", x.tend(53), 4);
+        paths(x, "1", "21", "22", "3", "4");
+        // Old: 14 + 10 = 24; best: 14 + 3 = 17, with d and e together.
+        x.use(1, 5);
+        x.use(2, 5);
+        x.use(3, 2);
+        due("22 cost", x.menu(1), 14 + 10);
+        due("22 least", x.menu(2), 14 + 3);
+        due("22 the path of a is the same", x.tend(0), 4);
     }
 
     private static void equalAtTheEdge() {
