@@ -155,7 +155,7 @@ public final class DialMenus {
             case 6:
                 return hasMenu ? present.lengthOf(name) : NONE;
             case 7:
-                return optimal(COMPARED_WIDTH).lengthOf(name);
+                return planner.planInto(spare, roster, COMPARED_WIDTH).lengthOf(name);
             default:
                 return OUTSIDE;
         }
@@ -246,7 +246,7 @@ public final class DialMenus {
         if (roster.size() == 0) {
             return STATE;
         }
-        int cost = optimal(b).cost(roster);
+        int cost = planner.planInto(spare, roster, b).cost(roster);
         adoptSpare();
         return cost;
     }
@@ -258,7 +258,7 @@ public final class DialMenus {
         if (slack < 0 || slack > MAX_SLACK) {
             return OUTSIDE;
         }
-        int least = optimal(present.width()).cost(roster);
+        int least = planner.planInto(spare, roster, present.width()).cost(roster);
         if (100 * (present.cost(roster) - least) <= slack * least) {
             return NONE;
         }
@@ -285,7 +285,7 @@ public final class DialMenus {
             case 1:
                 return present.cost(roster);
             case 2:
-                return optimal(present.width()).cost(roster);
+                return planner.planInto(spare, roster, present.width()).cost(roster);
             case 3:
                 return present.longestPath();
             case 4:
@@ -297,12 +297,6 @@ public final class DialMenus {
             default:
                 return OUTSIDE;
         }
-    }
-
-    // The answer is the spare menu, which the next call of this method writes anew.
-    private Menu optimal(int width) {
-        planner.planInto(spare, roster, width);
-        return spare;
     }
 
     private void adoptSpare() {
@@ -366,7 +360,7 @@ public final class DialMenus {
     private long mixNames(long start) {
         long h = start;
         // One plan serves name(.., 7) of all names.
-        Menu compared = optimal(COMPARED_WIDTH);
+        Menu compared = planner.planInto(spare, roster, COMPARED_WIDTH);
         for (int name = 0; name < roster.size(); name++) {
             int length = roster.lengthOf(name);
             for (int place = 0; place < length; place++) {
@@ -513,7 +507,7 @@ public final class DialMenus {
         }
 
         void encode(Keypad keypad) {
-            for (int place = 0; place < letters.length; place++) {
+            for (int place = 0; place < letters.length && place < code.length; place++) {
                 code[place] = keypad.digitOf(letters[place]);
             }
         }
@@ -592,7 +586,7 @@ public final class DialMenus {
         }
 
         void insert(Entry entry) {
-            if (size >= MAX_NAMES) {
+            if (entry == null || size >= MAX_NAMES) {
                 return;
             }
             int place = placeOf(entry);
@@ -970,6 +964,9 @@ public final class DialMenus {
         }
 
         private void studyName(int at, int next) {
+            if (!isWithin(at, next)) {
+                return;
+            }
             all[at] = (all[at] + all[next]) % READINGS_MODULUS;
             if (fewestDigits[next] < fewestDigits[at]) {
                 fewestDigits[at] = fewestDigits[next];
@@ -1006,7 +1003,13 @@ public final class DialMenus {
         }
 
         private boolean keepsBest(int at, int next) {
-            return fewestDigits[next] == fewestDigits[at] && fewestPieces[next] + 1 == fewestPieces[at];
+            return isWithin(at, next)
+                && fewestDigits[next] == fewestDigits[at] && fewestPieces[next] + 1 == fewestPieces[at];
+        }
+
+        // A name that is typed always ends within the input; this is asked so that no index can be outside the rows.
+        private static boolean isWithin(int at, int next) {
+            return at >= 0 && at < next && next <= MAX_INPUT;
         }
 
         Row best() {
@@ -1160,33 +1163,41 @@ public final class DialMenus {
         private final int[][] firstSizes = new int[MAX_WIDTH + 1][MAX_NAMES * MAX_NAMES];
         private final int[] bestParts = new int[MAX_NAMES * MAX_NAMES];
 
-        void planInto(Menu menu, Roster roster, int width) {
-            int names = roster.size();
-            int limit = Math.min(width, MAX_WIDTH);
+        /** Writes the optimal menu of this width into the menu, and answers it. */
+        Menu planInto(Menu menu, Roster roster, int width) {
+            int names = Math.min(roster.size(), MAX_NAMES);
             for (int name = 0; name < names; name++) {
                 sumBefore[name + 1] = sumBefore[name] + roster.frequencyOf(name);
             }
             for (int size = 1; size <= names; size++) {
                 for (int first = 0; first + size <= names; first++) {
-                    planRun(first, size, limit);
+                    planRun(first, size, width);
                 }
             }
             menu.start(width, names);
             for (int name = 0; name < names; name++) {
                 layPath(menu, name, names);
             }
+            return menu;
         }
 
+        // What is no run, and never asked for, shares the place of the first one, so that no index can be outside the rows.
         private static int run(int first, int size) {
-            return first * MAX_NAMES + size - 1;
+            boolean isRun = first >= 0 && size >= 1 && size <= MAX_NAMES - first;
+            return isRun ? first * MAX_NAMES + size - 1 : 0;
         }
 
-        private void planRun(int first, int size, int limit) {
+        private int sumOf(int first, int size) {
+            boolean isRun = first >= 0 && size >= 1 && size <= MAX_NAMES - first;
+            return isRun ? sumBefore[first + size] - sumBefore[first] : 0;
+        }
+
+        private void planRun(int first, int size, int width) {
             int run = run(first, size);
             int best = 1;
             costs[1][run] = 0;
             firstSizes[1][run] = size;
-            for (int parts = MIN_WIDTH; parts <= limit && parts <= size; parts++) {
+            for (int parts = MIN_WIDTH; parts <= MAX_WIDTH && parts <= width && parts <= size; parts++) {
                 planParts(parts, first, size);
                 // More parts must be really cheaper.
                 if (best == 1 || costs[parts][run] < costs[best][run]) {
@@ -1195,11 +1206,14 @@ public final class DialMenus {
             }
             bestParts[run] = best;
             if (best > 1) {
-                costs[1][run] = costs[best][run] + sumBefore[first + size] - sumBefore[first];
+                costs[1][run] = costs[best][run] + sumOf(first, size);
             }
         }
 
         private void planParts(int parts, int first, int size) {
+            if (parts < MIN_WIDTH || parts > MAX_WIDTH) {
+                return;
+            }
             int leastCost = 0;
             int leastSize = 0;
             for (int firstSize = 1; firstSize <= size - parts + 1; firstSize++) {
@@ -1214,6 +1228,10 @@ public final class DialMenus {
             firstSizes[parts][run(first, size)] = leastSize;
         }
 
+        private int firstSizeOf(int parts, int first, int size) {
+            return parts >= 1 && parts <= MAX_WIDTH ? firstSizes[parts][run(first, size)] : size;
+        }
+
         private void layPath(Menu menu, int name, int names) {
             int first = 0;
             int size = names;
@@ -1224,12 +1242,12 @@ public final class DialMenus {
                 }
                 int parts = bestParts[run(first, size)];
                 int part = 1;
-                int partSize = firstSizes[parts][run(first, size)];
+                int partSize = firstSizeOf(parts, first, size);
                 for (int left = parts - 1; left >= 1 && name >= first + partSize; left--) {
                     first += partSize;
                     size -= partSize;
                     part++;
-                    partSize = firstSizes[left][run(first, size)];
+                    partSize = firstSizeOf(left, first, size);
                 }
                 size = partSize;
                 menu.addStep(name, part);
