@@ -672,6 +672,16 @@ public final class DialMenus {
             return first == null || second == null ? UNKNOWN : first.sharedDigits(second);
         }
 
+        boolean areTwins(int one, int other) {
+            Entry first = get(one);
+            Entry second = get(other);
+            if (first == null || second == null || one == other) {
+                return false;
+            }
+            int length = first.code.length;
+            return second.code.length == length && first.sharedDigits(second) == length;
+        }
+
         /** Tells whether one name stands before another in every choice that has both. */
         boolean isAhead(int one, int other) {
             Entry first = get(one);
@@ -875,11 +885,6 @@ public final class DialMenus {
             return length <= roster.lengthOf(name) ? length : NONE;
         }
 
-        private boolean areTwins(Roster roster, int one, int other) {
-            int length = roster.lengthOf(one);
-            return one != other && roster.lengthOf(other) == length && roster.sharedDigits(one, other) == length;
-        }
-
         int twins(Roster roster, int name) {
             return twinsBelow(roster, roster.size(), name);
         }
@@ -887,7 +892,7 @@ public final class DialMenus {
         private int twinsBelow(Roster roster, int end, int name) {
             int twins = 0;
             for (int other = 0; other < end; other++) {
-                if (areTwins(roster, name, other)) {
+                if (roster.areTwins(name, other)) {
                     twins++;
                 }
             }

@@ -6,7 +6,9 @@ final class Edge {
 
     /** The numbers just outside a range, and the smallest and largest of all. */
     static int[] outside(int low, int high) {
-        return new int[] {Integer.MIN_VALUE, Integer.MIN_VALUE + 1, low - 1, high + 1, Integer.MAX_VALUE - 1, Integer.MAX_VALUE};
+        return new int[] {
+            Integer.MIN_VALUE, Integer.MIN_VALUE + 1, low - 1, high + 1, Integer.MAX_VALUE - 1, Integer.MAX_VALUE
+        };
     }
 
     /** The call answers this in the scene. */

@@ -87,8 +87,8 @@ public final class EmptyTest {
         edge.due("a new object beside one with another keypad", fresh.laid('d'), 3);
     }
 
-    // An empty text: fault "the length of the text if there is no such character"; names and dial "STATE if the text is not ..";
-    // blank "Returns the length that the text had"
+    // An empty text: fault "the length of the text if there is no such character"; names and dial "STATE if the text is
+    // not .."; blank "Returns the length that the text had"
     private static void emptyText() {
         for (Scene scene : new Scene[] {Scenes.FRESH, Scenes.FULL_INPUT, Scenes.ONE}) {
             edge.still(scene, "fault", 0);

@@ -197,11 +197,23 @@ public final class FullTest {
             edge.due("frequency of " + name, x.name(name, 1), name + 1);
         }
         edge.due("one too many", Check.addNames(x, "z:1"), FULL);
-        for (int left = 13; left >= 0; left--) {
-            edge.due("dropped", x.drop(left / 2), left);
+        dropAll(x, "abcdefghijklmn");
+        edge.due("removed", x.count(5), 14);
+    }
+
+    // The middle one goes each time, and the others are numbered anew.
+    private static void dropAll(DialMenus x, String letters) {
+        StringBuilder left = new StringBuilder(letters);
+        while (left.length() > 0) {
+            int middle = left.length() / 2;
+            left.deleteCharAt(middle);
+            edge.due("dropped", x.drop(middle), left.length());
+            for (int name = 0; name < left.length(); name++) {
+                edge.due("letter of " + name + " of " + left, x.sign(name, 0), left.charAt(name));
+            }
+            edge.due("no more than " + left, x.sign(left.length(), 0), UNKNOWN);
         }
         edge.due("none left", x.drop(0), UNKNOWN);
-        edge.due("removed", x.count(5), 14);
     }
 
     // "A name has 1 to 8 letters a to z"

@@ -289,8 +289,8 @@ public final class NearlyTest {
         }
     }
 
-    // The document's words themselves, for all texts of at most five of these signs: a text has no fault as long as it is the
-    // beginning of some list. Three signs more are enough to end one that can be ended.
+    // The document's words themselves, for all texts of at most five of these signs: a text has no fault as long as it is
+    // the beginning of some list. Three signs more are enough to end one that can be ended.
     private static void everyShortText() {
         String signs = "ab:;019";
         Set<String> lists = new HashSet<>();

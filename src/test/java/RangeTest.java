@@ -268,6 +268,9 @@ public final class RangeTest {
         edge.due(all, "choice 1", 0);
         edge.due(all, "choice 13", 12);
         edge.still(Scenes.FULL_NAMES, "choice 0", UNKNOWN);
+        // Only the first digit is another one.
+        edge.still(Scene.of("no such choice", "write cam:1", "names", "type 326"), "choice 0", UNKNOWN);
+        edge.still(Scene.of("no such choice", "write a:1", "names", "type 3"), "choice 0", UNKNOWN);
     }
 
     // piece: "UNKNOWN if there is no such piece"
@@ -319,8 +322,8 @@ public final class RangeTest {
 
     // leads: "(also if parts .. contains a digit 0 and is not 0)"
     private static void partsWithZero() {
-        for (int wrong : new int[] {10, 20, 110, 220, 2210, 101, 102, 201, 202, 2021, 2201, 1010, 100, 1000000000, 2000000000,
-            2147483640}) {
+        for (int wrong : new int[] {10, 20, 110, 220, 2210, 101, 102, 201, 202, 2021, 2201, 1010, 100, 1000000000,
+            2000000000, 2147483640}) {
             edge.still(Scenes.MENU, new Call("leads", wrong, 0), UNKNOWN);
         }
         edge.still(Scenes.ONE, "leads 10", UNKNOWN);

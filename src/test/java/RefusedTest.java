@@ -12,7 +12,8 @@ public final class RefusedTest {
     private static final int[] ODD = {
         Integer.MIN_VALUE, -1, 0, 1, 2, 5, 9, 10, 14, 31, 32, 97, 100, 101, 123, 127, Integer.MAX_VALUE
     };
-    private static final String TELLING = " fault name sign digit laid about typed choice spelling piece path leads menu count ";
+    private static final String TELLING =
+        " fault name sign digit laid about typed choice spelling piece path leads menu count ";
     private static final Edge edge = new Edge();
 
     public static void main(String[] args) {
