@@ -7,6 +7,8 @@ import java.util.List;
  */
 final class Scene {
     private static final int MOST_CALLS = 512;
+    private static final List<String> CHANGING =
+        List.of("letter", "blank", "names", "dial", "drop", "use", "press", "back", "wipe", "build", "tend");
     private static final List<Call> QUESTIONS = questions();
     private static final List<Call> SEQUEL = steps("letter 58", "letter 49", "fault", "names", "dial", "blank", "back",
         "press 2", "press 7", "build 3", "use 0 7", "use 1 98", "tend 0", "menu 6", "drop 1", "write k:3;zz:4", "names",
@@ -50,7 +52,7 @@ final class Scene {
     DialMenus make() {
         DialMenus x = new DialMenus();
         for (Call call : calls) {
-            if (Call.isError(call.on(x))) {
+            if (Call.isError(call.on(x)) && CHANGING.contains(call.method())) {
                 throw new IllegalStateException("the scene '" + name + "' cannot be made: " + call);
             }
         }
@@ -101,13 +103,27 @@ final class Scene {
 
     /** The first question that is answered otherwise, or an empty text. */
     static String difference(List<Long> before, List<Long> after) {
+        return difference(before, after, false);
+    }
+
+    /** The same but for what counts the calls of the past. */
+    static String differenceButCounts(List<Long> before, List<Long> after) {
+        return difference(before, after, true);
+    }
+
+    private static String difference(List<Long> before, List<Long> after, boolean butCounts) {
         for (int at = 0; at < before.size() && at < after.size(); at++) {
-            if (!before.get(at).equals(after.get(at))) {
-                Call call = at < QUESTIONS.size() ? QUESTIONS.get(at) : SEQUEL.get(at - QUESTIONS.size());
+            Call call = at < QUESTIONS.size() ? QUESTIONS.get(at) : SEQUEL.get(at - QUESTIONS.size());
+            if (!before.get(at).equals(after.get(at)) && !(butCounts && isCount(call))) {
                 return call + " answers " + after.get(at) + " and not " + before.get(at);
             }
         }
         return "";
+    }
+
+    private static boolean isCount(Call call) {
+        boolean isOfMenu = call.method().equals("menu") && call.a() == 6;
+        return isOfMenu || List.of("count", "digest").contains(call.method());
     }
 
     private static List<Call> questions() {
