@@ -52,14 +52,21 @@ public final class LanguageTest {
         Collections.sort(face);
         Collections.sort(open);
         check.holds("the methods are the document's: " + open, open.equals(face));
-        for (Method method : DialMenus.class.getDeclaredMethods()) {
-            check.holds("no private " + method.getName(),
-                !Modifier.isPrivate(method.getModifiers()) || !publicNames.contains(method.getName()));
+        noPrivateNamesake(DialMenus.class, publicNames);
+        for (Class<?> nested : DialMenus.class.getDeclaredClasses()) {
+            noPrivateNamesake(nested, publicNames);
         }
         Constructor<?>[] constructors = DialMenus.class.getDeclaredConstructors();
         check.holds("one constructor", constructors.length == 1 && constructors[0].getModifiers() == Modifier.PUBLIC
             && constructors[0].getParameterCount() == 0);
         fields();
+    }
+
+    private static void noPrivateNamesake(Class<?> one, Set<String> publicNames) {
+        for (Method method : one.getDeclaredMethods()) {
+            check.holds("no private " + method, !Modifier.isPrivate(method.getModifiers())
+                || !publicNames.contains(method.getName()));
+        }
     }
 
     private static String signature(Method method) {

@@ -5,7 +5,10 @@ import java.util.Random;
 /** Holds the class against the model in long runs of calls, always the same ones. */
 public final class ModelTest {
     private static final int RUNS = 200;
-    private static final int CALLS = 512;
+    // Of readings and of menus alone, of which the other runs meet the rare cases too seldom.
+    private static final int MORE_RUNS = 100;
+    // With the digest at the end as many as the document allows.
+    private static final int CALLS = 511;
     private static final int MOST_SHOWN = 20;
 
     private final Random random;
@@ -30,6 +33,10 @@ public final class ModelTest {
         for (int seed = 0; seed < RUNS && check.wrong() < MOST_SHOWN; seed++) {
             new ModelTest(seed, check).run();
         }
+        for (int seed = 0; seed < MORE_RUNS && check.wrong() < MOST_SHOWN; seed++) {
+            new ModelTest(seed, check).runReadings();
+            new ModelTest(seed, check).runMenus();
+        }
         check.end();
     }
 
@@ -38,6 +45,61 @@ public final class ModelTest {
             step();
         }
         digest();
+    }
+
+    // Short names on four digits: many readings are nearly as good as the best one.
+    private void runReadings() {
+        for (int number = 3 + random.nextInt(8); number > 0; number--) {
+            write(wordOf("abdegj", 1 + random.nextInt(4)) + ":1");
+            call("names", 0, 0);
+        }
+        while (calls < CALLS && check.wrong() < MOST_SHOWN) {
+            call("wipe", 0, 0);
+            for (int length = 2 + random.nextInt(9); length > 0; length--) {
+                call("press", 2 + random.nextInt(4), 0);
+            }
+            for (int what = 0; what <= 3; what++) {
+                call("spelling", what, 0);
+            }
+            for (int place = 0; place <= model.call("spelling", 2, 0); place++) {
+                call("piece", place, 0);
+            }
+        }
+        digest();
+    }
+
+    // Frequencies that are nearly the same: many menus are nearly as cheap as the cheapest one.
+    private void runMenus() {
+        int heaviest = 2 + random.nextInt(4);
+        for (int number = 2 + random.nextInt(9); number > 0; number--) {
+            write(wordOf("abcdefghijklmnop", 1) + ":" + (1 + random.nextInt(heaviest)));
+            call("names", 0, 0);
+        }
+        int names = model.call("count", 0, 0);
+        while (calls < CALLS && check.wrong() < MOST_SHOWN) {
+            call("build", 2 + random.nextInt(3), 0);
+            for (int number = random.nextInt(4); number > 0; number--) {
+                call("use", random.nextInt(names), 1 + random.nextInt(heaviest));
+            }
+            call("tend", random.nextInt(random.nextBoolean() ? 1 : 20), 0);
+            for (int what = 1; what <= 5; what++) {
+                call("menu", what, 0);
+            }
+            for (int name = 0; name < names; name++) {
+                call("path", name, 0);
+                call("path", name, 1);
+                call("name", name, 6);
+            }
+        }
+        digest();
+    }
+
+    private String wordOf(String signs, int length) {
+        StringBuilder word = new StringBuilder();
+        while (word.length() < length) {
+            word.append(signs.charAt(random.nextInt(signs.length())));
+        }
+        return word.toString();
     }
 
     private void step() {

@@ -317,6 +317,11 @@ public final class PromiseTest {
         properties(one, 1, 4, 7, 0, 1, 1, 0, NONE, 1);
         DialMenus last = Check.with("aaaaaaaa:1;aaaaaaad:1");
         due("9 distinguished by the last digit", last.name(0, 3), 8);
+        DialMenus many = Check.with("ad:1;ae:1;af:1;be:1;a:1;adg:1");
+        int[] twins = {0, 3, 0, 3, 3, 3};
+        for (int name = 0; name < 6; name++) {
+            due("9 several twins of " + name, many.name(name, 2), twins[name]);
+        }
     }
 
     private static void promise9Presses() {
@@ -602,6 +607,8 @@ public final class PromiseTest {
         // The lower number counts, and neither the length nor the frequency: ad, g and not b, dg.
         pieces(Check.with("ad:1;b:9;dg:9;g:1"), "234", 0, 3);
         pieces(Check.with("a:1;ad:9;dg:1;g:9"), "234", 0, 2);
+        // Of three pieces each, b, dg, j has no digit; ad, the digit 4 and j begins with a lower number, but has one.
+        pieces(Check.with("ad:1;b:1;dg:1;j:1"), "2345", 1, 2, 3);
     }
 
     private static void paths(DialMenus x, String... want) {
@@ -659,6 +666,11 @@ public final class PromiseTest {
         DialMenus six = Check.with("a:1;b:1;c:1;d:1;e:1;f:1");
         due("21 width 3 of six", six.build(3), 11);
         paths(six, "1", "21", "22", "31", "32", "33");
+        // 2, 1, 2 costs 7 + 2 + 2; 1, 1, 3 and 3, 1, 1 cost 7 + 5, though they have a menu less.
+        DialMenus heavy = Check.with("a:1;b:1;c:3;d:1;e:1");
+        due("21 width 3 around a heavy name", heavy.build(3), 11);
+        paths(heavy, "11", "12", "2", "31", "32");
+        due("21 so many menus", heavy.menu(4), 3);
         manyEqualNames();
     }
 
@@ -765,6 +777,27 @@ public final class PromiseTest {
         due("22 cost", x.menu(1), 14 + 10);
         due("22 least", x.menu(2), 14 + 3);
         due("22 the path of a is the same", x.tend(0), 4);
+        // The path of c was 3 and is 2: nothing but its first step is different.
+        DialMenus y = Check.with("a:1;b:1;c:1;d:1;e:1");
+        y.build(4);
+        y.use(2, 9);
+        y.use(3, 9);
+        y.use(4, 9);
+        due("22 five paths are different", y.tend(0), 5);
+        paths(y, "11", "12", "2", "3", "4");
+        aStepMore();
+    }
+
+    private static void aStepMore() {
+        // Old: 264; best: 247. The path of e only has a step more, and that of f is the same.
+        DialMenus x = Check.with("a:9;b:40;c:40;d:3;e:20;f:9");
+        x.build(3);
+        paths(x, "11", "12", "2", "31", "32", "33");
+        x.use(0, 40);
+        due("22 cost", x.menu(1), 264);
+        due("22 least", x.menu(2), 247);
+        due("22 a step more is different", x.tend(0), 5);
+        paths(x, "1", "2", "31", "321", "322", "33");
     }
 
     private static void equalAtTheEdge() {
@@ -893,6 +926,15 @@ public final class PromiseTest {
         int[] want = {2, 3, 4, 2, 1, 1};
         for (int what = 0; what <= 5; what++) {
             due("26 count " + what, x.count(what), want[what]);
+        }
+        x.blank();
+        for (int times = 2; times <= 4; times++) {
+            Check.takeKeypad(x, times % 2 == 0 ? "abcdefghijklmnopqrs,t,u,v,w,x,y,z" : PLAIN);
+            due("26 every keypad counts", x.count(4), times);
+            Check.addNames(x, "c" + (char) ('a' + times) + ":1");
+            due("26 every list counts", x.count(3), 1 + times);
+            x.drop(0);
+            due("26 every name that is removed counts", x.count(5), times);
         }
         due("26 what -1", x.count(-1), OUTSIDE);
         due("26 what 6", x.count(6), OUTSIDE);

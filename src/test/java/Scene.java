@@ -91,6 +91,15 @@ final class Scene {
         return answers;
     }
 
+    /** What the object answers to each question if that is the first one in this state. */
+    List<Long> toldFirst() {
+        List<Long> answers = new ArrayList<>();
+        for (Call question : QUESTIONS) {
+            answers.add(question.on(make()));
+        }
+        return answers;
+    }
+
     private void ask(List<Call> questions, List<Long> answers, Call... extra) {
         DialMenus x = make();
         for (Call call : extra) {
